@@ -78,7 +78,9 @@ public final class HedgehogLots {
         if (latestFault == NO_FAULT) {
             slope.copyFrom(reader.draft);
             seen.size = 0;
-            Arrays.fill(kept, false);
+            for (int k = 0; k < IMAGES; k++) {
+                kept[k] = false;
+            }
         }
         return answer;
     }
@@ -198,7 +200,7 @@ public final class HedgehogLots {
     }
 
     public int sue(int h, int c) {
-        if (!isLetGo(h, c)) {
+        if (!canLetGo(h, c)) {
             return BAD;
         }
         return slope.addSuit(h, c);
@@ -216,7 +218,7 @@ public final class HedgehogLots {
     // ---- runs
 
     public int run(int h, int c, int what) {
-        if (!isLetGo(h, c)) {
+        if (!canLetGo(h, c)) {
             return BAD;
         }
         Course course = court.letGo(h, c);
@@ -231,7 +233,7 @@ public final class HedgehogLots {
     }
 
     public int way(int h, int c, int row) {
-        if (!isLetGo(h, c) || row < 0 || row >= ROWS) {
+        if (!canLetGo(h, c) || row < 0 || row >= ROWS) {
             return BAD;
         }
         Course course = court.letGo(h, c);
@@ -258,7 +260,7 @@ public final class HedgehogLots {
     }
 
     public int kindly(int h, int c, int k) {
-        if (!isLetGo(h, c) || !isRag(k)) {
+        if (!canLetGo(h, c) || !isRag(k)) {
             return BAD;
         }
         int bits = 0;
@@ -306,7 +308,7 @@ public final class HedgehogLots {
     }
 
     public int need(int h, int c) {
-        if (!isLetGo(h, c)) {
+        if (!canLetGo(h, c)) {
             return BAD;
         }
         for (int speed = 1; speed <= FASTEST; speed++) {
@@ -338,7 +340,7 @@ public final class HedgehogLots {
     // ---- turns the other way
 
     public long luck(int v, int h, int c, int k, int what) {
-        if (!isOutOfTen(v) || !isLetGo(h, c) || !isRag(k) || !isHalf(what)) {
+        if (!isOutOfTen(v) || !canLetGo(h, c) || !isRag(k) || !isHalf(what)) {
             return BAD;
         }
         odds.follow(slope, v, h, c, k);
@@ -346,7 +348,7 @@ public final class HedgehogLots {
     }
 
     public long mean(int v, int h, int c, int what) {
-        if (!isOutOfTen(v) || !isLetGo(h, c) || !isHalf(what)) {
+        if (!isOutOfTen(v) || !canLetGo(h, c) || !isHalf(what)) {
             return BAD;
         }
         odds.follow(slope, v, h, c, 0);
@@ -357,7 +359,7 @@ public final class HedgehogLots {
 
     public int see(int h, int c, int i) {
         boolean named = i >= 0 && i < MOST_PEGS || i == NOWHERE;
-        if (!isLetGo(h, c) || !named) {
+        if (!canLetGo(h, c) || !named) {
             return BAD;
         }
         return seen.add(h, c, i);
@@ -536,7 +538,7 @@ public final class HedgehogLots {
 
     // ---- numbers that are as told
 
-    private boolean isLetGo(int h, int c) {
+    private boolean canLetGo(int h, int c) {
         return slope.isHedgehog(h) && Slope.isColumn(c);
     }
 

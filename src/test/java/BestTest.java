@@ -38,6 +38,10 @@ public final class BestTest {
         HedgehogLots none = new HedgehogLots();
         CHECK.due("place(1, 0)", none.place(1, 0), 0);
         CHECK.due("place(1, 1)", none.place(1, 1), 0);
+        // By 83 a plain one turns to 92 with 1 left; a peg above would turn it away.
+        HedgehogLots last = Told.by("peg 83 0;plain 3;suit 0 3;");
+        CHECK.due("place(2, 0), in the last row", last.place(2, 0), 92);
+        CHECK.due("place(2, 1), in the last row", last.place(2, 1), 1);
         HedgehogLots end = Told.by("peg 7 0;fat 4;suit 0 7;slug 96;");
         CHECK.due("place(2, 0), turned at the edge", end.place(2, 0), 17);
     }
@@ -58,6 +62,10 @@ public final class BestTest {
         CHECK.due("move(1, 0), the first that is free", y.move(1, 0), 2);
         CHECK.due("move(1, 1)", y.move(1, 1), 0);
         CHECK.due("move(0, 0)", y.move(0, 0), 1);
+        HedgehogLots last = Told.by("peg 83 0;peg 1 2;plain 3;suit 0 3;");
+        CHECK.due("move(1, 0), to the last row", last.move(1, 0), 92);
+        CHECK.due("move(1, 1), to the last row", last.move(1, 1), 1);
+        CHECK.due("move(0, 0), all cells alike", Told.by("peg 97 0;").move(0, 0), 0);
         // The two suits of rag 0 can be won by one peg no more than where the ways meet: cell 13.
         HedgehogLots z = Told.by("peg 97 0;peg 2 3;young 2;young 1;suit 0 2;suit 1 3;");
         CHECK.due("move(0, 0)", z.move(0, 0), 13);
@@ -84,6 +92,12 @@ public final class BestTest {
         x.lay(7);
         CHECK.due("bribe(0, 0), 4 slugs", x.bribe(0, 0), -3);
         CHECK.due("bribe(4, 0), 4 slugs", x.bribe(4, 0), -1);
+        HedgehogLots lost = Told.by("peg 3 1;plain 1;suit 0 3;suit 0 3;suit 0 3;suit 0 3;suit 0 3;suit 0 3;");
+        CHECK.due("bribe(0, 0), all are lost", lost.bribe(0, 0), 0);
+        CHECK.due("bribe(0, 1), all are lost", lost.bribe(0, 1), 6);
+        HedgehogLots nought = Told.by("peg 40 1;plain 1;suit 0 0;");
+        CHECK.due("bribe(0, 0), in cell 0", nought.bribe(0, 0), 0);
+        CHECK.due("bribe(0, 1), in cell 0", nought.bribe(0, 1), 0);
         HedgehogLots y = Told.by("slug 0;peg 1 1;");
         CHECK.due("bribe(0, 0), the first that is free", y.bribe(0, 0), 2);
         CHECK.due("bribe(0, 1)", y.bribe(0, 1), 0);
@@ -102,6 +116,7 @@ public final class BestTest {
         CHECK.due("need(-1, 0)", x.need(-1, 0), -1);
         CHECK.due("need(0, 8)", x.need(0, 8), -1);
         CHECK.due("need(0, -1)", x.need(0, -1), -1);
+        CHECK.due("need(0, 3), four are met", Told.by("peg 3 0;peg 12 0;peg 23 0;peg 32 0;plain 1;").need(0, 3), 9);
         HedgehogLots y = Told.by("peg 7 0;peg 17 0;boar 1;fat 1;");
         CHECK.due("need(0, 7), 6 and 6 are too many", y.need(0, 7), -4);
         y.shift(0, 6);
@@ -125,6 +140,10 @@ public final class BestTest {
         CHECK.due("swap(1, 0), all three", y.swap(1, 0), 12);
         CHECK.due("swap(1, 1), all three", y.swap(1, 1), 3);
         CHECK.due("swap(0, 0)", y.swap(0, 0), -4);
+        HedgehogLots kinds = Told.by("peg 3 0;slug 4;slug 5;slug 2;young 5;boar 5;suit 0 3;");
+        CHECK.due("swap(0, 0), kinds go with them", kinds.swap(0, 0), 1);
+        CHECK.due("swap(0, 1), kinds go with them", kinds.swap(0, 1), 1);
+        CHECK.due("hedgehog(0, 0)", kinds.hedgehog(0, 0), 2);
         HedgehogLots z = Told.by("peg 3 0;slug 4;fat 9;fat 9;fat 3;fat 3;suit 1 3;");
         CHECK.due("swap(0, 0), of 12 and 13 the least", z.swap(0, 0), 12);
     }
@@ -144,6 +163,8 @@ public final class BestTest {
         HedgehogLots y = Told.by("peg 97 2;peg 3 0;peg 13 1;peg 4 0;peg 14 1;plain 1;suit 0 3;suit 0 4;");
         CHECK.due("pull(1, 0), of 1 and 3 the first", y.pull(1, 0), 1);
         CHECK.due("pull(1, 1)", y.pull(1, 1), 1);
+        HedgehogLots each = Told.by("peg 3 0;peg 13 0;peg 23 1;peg 97 2;plain 1;suit 0 3;");
+        CHECK.due("pull(1, 0), one alone is pulled", each.pull(1, 0), -4);
         y.sue(0, 4);
         CHECK.due("pull(1, 0), two suits by 3", y.pull(1, 0), 3);
         CHECK.due("pull(1, 1), two suits by 3", y.pull(1, 1), 2);

@@ -54,6 +54,11 @@ public final class DriftTest {
         // The first lifts peg 0 from column 1 to cell 64: it is then no more in the way of others there.
         due("peg 1 0;plain 1;peg 64 1;", 1, 1, 1, 1);
         due("peg 72 0;peg 1 3;plain 1;", 1, 5, 2, 1);
+        // The second goes from 7 to 91, the fifth from 2 to 1: not to the cell beside it, which is not free.
+        due("peg 7 0;slug 92;slug 90;plain 1;", 1, 12, 1, 1);
+        due("peg 2 0;slug 76;slug 0;plain 1;", 1, 16, 3, 3);
+        // From 3 to 0 (the 23rd), from 0 to 54 (the 39th), where it stays.
+        due("peg 3 0;plain 1;", 1, 60, 2, 2);
     }
 
     /** Of two hedgehogs the third, fourth and fifth are the second one. */

@@ -54,6 +54,10 @@ public final class OddsTest {
         HedgehogLots edge = Told.by("peg 11 0;peg 20 1;peg 23 2;boar 7;");
         luck(edge, 2, 1, 1, 4, 5);
         luck(edge, 2, 1, 2, 1, 5);
+        // One speed left, nothing in its way for long.
+        HedgehogLots slow = Told.by("peg 93 1;plain 1;");
+        luck(slow, 4, 3, 1, 1, 1);
+        luck(slow, 4, 2, 1, 0, 1);
         HedgehogLots young = Told.by("peg 7 0;peg 16 1;peg 17 2;young 2;");
         luck(young, 4, 7, 2, 3, 5);
         luck(young, 4, 7, 1, 2, 5);

@@ -116,7 +116,10 @@ public final class RunTest {
         CHECK.due("share(0, 4)", y.share(0, 4), -1);
         CHECK.due("share(0, -1)", y.share(0, -1), -1);
         CHECK.due("share(0, -4)", y.share(0, -4), -1);
+        HedgehogLots edges = Told.by("peg 0 2;peg 97 2;fat 1;");
+        CHECK.due("share(0, 2), the columns at the edges", edges.share(0, 2), 2);
         CHECK.promise(23);
+        CHECK.due("first(0, 2), column 0", edges.first(0, 2), 0);
         CHECK.due("first(0, 0)", x.first(0, 0), -4);
         CHECK.due("first(0, 1)", x.first(0, 1), 3);
         CHECK.due("first(0, 2)", x.first(0, 2), 2);

@@ -107,10 +107,12 @@ public final class SeenTest {
         CHECK.due("ask(0, 1), of 5, 6", x.ask(0, 1), -4);
         x.see(0, 3, 1);
         CHECK.due("ask(0, 0), of none", x.ask(0, 0), -4);
-        // Peg 3 parts 5 from 6 as well as peg 2 did 4 from 5: the first of two columns that tell as much.
+        // A young one rests with speed 1 alone, from column 4 as well as from column 1.
         HedgehogLots y = Told.by("peg 1 0;peg 4 0;young 5;");
         CHECK.due("ask(0, 0), of 1 and 4 the first", y.ask(0, 0), 1);
         CHECK.due("ask(0, 1)", y.ask(0, 1), 8);
+        HedgehogLots nought = Told.by("peg 0 0;young 5;");
+        CHECK.due("ask(0, 0), column 0", nought.ask(0, 0), 0);
         HedgehogLots none = Told.by("young 5;slug 1;");
         CHECK.due("ask(0, 0), nothing to meet", none.ask(0, 0), -4);
     }

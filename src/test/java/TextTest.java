@@ -132,6 +132,11 @@ public final class TextTest {
         faulty("pe 1 1;", 2, 0);
         faulty("pegs 1 1;", 2, 0);
         faulty("pet 1 1;", 2, 0);
+        faulty("xeg 1 1;", 2, 0);
+        faulty("a", 2, 0);
+        faulty("z", 2, 0);
+        faulty("fatz 1;", 2, 0);
+        faulty("fata 1;", 2, 0);
         faulty("peg peg;", 2, 4);
         faulty("fat 1;;", 2, 6);
         faulty("fat 1;1", 2, 6);
@@ -217,6 +222,9 @@ public final class TextTest {
         CHECK.due("rule(5)", x.rule(5), 4);
         CHECK.due("rule(6)", x.rule(6), -1);
         CHECK.due("rule(-1)", x.rule(-1), -1);
+        HedgehogLots opens = Told.by("slug 1;fat 1;suit 0 1;suit 0 2;suit 0 1;");
+        CHECK.due("rule(5), the first opens", opens.rule(5), 5);
+        CHECK.due("rule(4), none rests", opens.rule(4), 0);
     }
 
     private static void peg() {
@@ -252,6 +260,8 @@ public final class TextTest {
                 CHECK.due("hedgehog(" + h + ", " + what + ")", x.hedgehog(h, what), due[h][what]);
             }
         }
+        HedgehogLots edges = Told.by("peg 0 0;peg 97 0;fat 1;");
+        CHECK.due("hedgehog(0, 3), the columns at the edges", edges.hedgehog(0, 3), 129);
         CHECK.due("hedgehog(4, 0)", x.hedgehog(4, 0), -1);
         CHECK.due("hedgehog(-1, 0)", x.hedgehog(-1, 0), -1);
         CHECK.due("hedgehog(0, 4)", x.hedgehog(0, 4), -1);
