@@ -144,6 +144,7 @@ public final class BestTest {
         CHECK.due("swap(0, 0), kinds go with them", kinds.swap(0, 0), 1);
         CHECK.due("swap(0, 1), kinds go with them", kinds.swap(0, 1), 1);
         CHECK.due("hedgehog(0, 0)", kinds.hedgehog(0, 0), 2);
+        CHECK.due("swap(0, 0), the kind of the first goes, too", Told.by("peg 3 0;boar 5;young 5;suit 1 3;").swap(0, 0), 1);
         HedgehogLots z = Told.by("peg 3 0;slug 4;fat 9;fat 9;fat 3;fat 3;suit 1 3;");
         CHECK.due("swap(0, 0), of 12 and 13 the least", z.swap(0, 0), 12);
     }
