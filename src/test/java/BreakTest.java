@@ -50,7 +50,7 @@ public final class BreakTest {
             workers.execute(() -> tryOut(source, e.getKey(), e.getValue()));
         }
         workers.shutdown();
-        if (!workers.awaitTermination(20, TimeUnit.MINUTES)) {
+        if (!workers.awaitTermination(10, TimeUnit.MINUTES)) {
             WRONGS.add("a broken class does not end");
         }
         Check check = new Check("BreakTest");
