@@ -1,10 +1,6 @@
-import java.io.ByteArrayOutputStream;
-import java.io.OutputStream;
-import java.net.URI;
 import java.nio.file.Files;
 import java.nio.file.Path;
 import java.util.ArrayList;
-import java.util.HashMap;
 import java.util.LinkedHashMap;
 import java.util.List;
 import java.util.Map;
@@ -12,14 +8,6 @@ import java.util.concurrent.ConcurrentLinkedQueue;
 import java.util.concurrent.ExecutorService;
 import java.util.concurrent.Executors;
 import java.util.concurrent.TimeUnit;
-import javax.tools.FileObject;
-import javax.tools.ForwardingJavaFileManager;
-import javax.tools.JavaCompiler;
-import javax.tools.JavaFileManager;
-import javax.tools.JavaFileObject;
-import javax.tools.SimpleJavaFileObject;
-import javax.tools.StandardJavaFileManager;
-import javax.tools.ToolProvider;
 
 /**
  * The class is broken on purpose, in each of the ways that src/test/edges tells, by itself; the sentence under
@@ -65,14 +53,14 @@ public final class BreakTest {
 
     private static void tryOut(String source, Edge.Break b, List<Edge> edges) {
         try {
-            Face face = new Face(compiled(broken(source, b)));
+            Face face = new Face(Compiled.of("HedgehogLots", broken(source, b), ClassLoader.getPlatformClassLoader()));
             for (Edge edge : edges) {
                 if (edge.wrongs(face).isEmpty()) {
                     WRONGS.add(edge + " - does not see " + b);
                 }
             }
-        } catch (ReflectiveOperationException | RuntimeException e) {
-            WRONGS.add(edges.get(0) + " - " + b + ": " + e.getMessage());
+        } catch (ReflectiveOperationException | RuntimeException | Error e) {
+            WRONGS.add(edges.get(0) + " - " + b + ": " + e);
         }
     }
 
@@ -88,45 +76,5 @@ public final class BreakTest {
             throw new IllegalArgumentException("the piece does not stand behind the anchor");
         }
         return source.substring(0, at) + b.to() + source.substring(at + b.from().length());
-    }
-
-    private static Class<?> compiled(String source) throws ReflectiveOperationException {
-        JavaCompiler compiler = ToolProvider.getSystemJavaCompiler();
-        Map<String, ByteArrayOutputStream> classes = new HashMap<>();
-        StandardJavaFileManager standard = compiler.getStandardFileManager(d -> { }, null, null);
-        JavaFileManager manager = new ForwardingJavaFileManager<JavaFileManager>(standard) {
-            @Override
-            public JavaFileObject getJavaFileForOutput(Location l, String name, JavaFileObject.Kind kind, FileObject near) {
-                return new SimpleJavaFileObject(URI.create("memory:///" + name + ".class"), kind) {
-                    @Override
-                    public OutputStream openOutputStream() {
-                        ByteArrayOutputStream bytes = new ByteArrayOutputStream();
-                        classes.put(name, bytes);
-                        return bytes;
-                    }
-                };
-            }
-        };
-        JavaFileObject file = new SimpleJavaFileObject(URI.create("memory:///HedgehogLots.java"), JavaFileObject.Kind.SOURCE) {
-            @Override
-            public CharSequence getCharContent(boolean ignoreEncodingErrors) {
-                return source;
-            }
-        };
-        StringBuilder errors = new StringBuilder();
-        if (!compiler.getTask(null, manager, d -> errors.append(d).append(' '), List.of("-proc:none"), null, List.of(file)).call()) {
-            throw new IllegalArgumentException("does not compile: " + errors);
-        }
-        ClassLoader loader = new ClassLoader(ClassLoader.getPlatformClassLoader()) {
-            @Override
-            protected Class<?> findClass(String name) throws ClassNotFoundException {
-                ByteArrayOutputStream bytes = classes.get(name);
-                if (bytes == null) {
-                    throw new ClassNotFoundException(name);
-                }
-                return defineClass(name, bytes.toByteArray(), 0, bytes.size());
-            }
-        };
-        return loader.loadClass("HedgehogLots");
     }
 }

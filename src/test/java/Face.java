@@ -68,6 +68,10 @@ final class Face {
             this.x = x;
         }
 
+        Object object() {
+            return x;
+        }
+
         long put(Call call) {
             calls++;
             if (calls > 512) {
