@@ -21,9 +21,14 @@ final class Both {
     private int calls = 0;
 
     Both(long seed, Check check) {
+        this(seed, check, LOTS);
+    }
+
+    /** The face: of the class, or of one that was changed. */
+    Both(long seed, Check check, Face face) {
         this.random = new Random(seed);
         this.check = check;
-        lots = LOTS.make();
+        lots = face.make();
         right = MODEL.make();
         model = (Model) right.object();
     }

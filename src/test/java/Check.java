@@ -1,5 +1,5 @@
 /** Counts the calls of a test whose answers are due, and tells those whose answers are not. */
-final class Check {
+class Check {
     private final String name;
     private String promise = "";
     private int right = 0;

@@ -20,9 +20,14 @@ public final class LongRunTest {
         int rounds = args.length > 0 ? Integer.parseInt(args[0]) : 1500;
         Check check = new Check("LongRunTest");
         for (int seed = 1; seed <= rounds; seed++) {
-            new LongRunTest(new Both(seed, check)).go();
+            go(new Both(seed, check));
         }
         check.finish();
+    }
+
+    /** 512 calls on one object. */
+    static void go(Both both) {
+        new LongRunTest(both).go();
     }
 
     private void go() {

@@ -24,9 +24,14 @@ public final class ModelTest {
         int rounds = args.length > 0 ? Integer.parseInt(args[0]) : 3000;
         Check check = new Check("ModelTest");
         for (int seed = 1; seed <= rounds; seed++) {
-            new ModelTest(new Both(seed, check)).go();
+            go(new Both(seed, check));
         }
         check.finish();
+    }
+
+    /** 512 calls on one object. */
+    static void go(Both both) {
+        new ModelTest(both).go();
     }
 
     private void go() {
