@@ -36,8 +36,8 @@ import javax.tools.ToolProvider;
 /**
  * No test, but a search for sentences without a test: some 7,000 small changes of the class, each by itself, are put
  * to the sentences of src/test/edges, and what no sentence sees to seeded runs beside the model. What these see
- * ("SEEN BY THE MODEL") wants a sentence; the rest are guards, bounds and first values that no call can show, and
- * is told to be read. It takes a quarter of an hour on eight cores.
+ * ("SEEN BY THE MODEL") wants a sentence; the rest, which is told to be read, should be guards, bounds and first
+ * values that no call can show. It takes some 20 minutes on eight cores.
  */
 public final class Sweep extends TreePathScanner<Void, Void> {
     private static final int RUNS = 400;
@@ -167,7 +167,8 @@ public final class Sweep extends TreePathScanner<Void, Void> {
             return;
         }
         for (String by : others) {
-            if (!by.equals(source.substring(from, to))) {
+            String was = source.substring(from, to);
+            if (!by.equals(was) && !by.equals("(" + was + ")")) {
                 changes.put(from + " " + to + " " + by, new Change(from, to, by, unit.getLineMap().getLineNumber(from)));
             }
         }
